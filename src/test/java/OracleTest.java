@@ -11,6 +11,15 @@ public final class OracleTest {
         "repairKind", "applyRepair", "localCost", "localOperation", "localKind", "sweepCost", "undoCount"
     };
 
+    // Their shortest words are long, and the stack is needed for them.
+    private static final String[] DEEP = {
+        "states6;accept5;pop2a00;shift3e5;shift5c2;pop2f41;pop4c11;push0e51;push2d10;push1f50;push3f11;pop4d30;",
+        "states6;accept5;pop4a30;push0a10;push1c20;pop3c20;shift1d5;shift5d4;pop3a11;push2d51;push5b21;pop4d01;",
+        "states6;accept5;pop0e51;pop3b01;shift1e5;pop5b20;pop2f40;push4a11;shift5d3;push0b10;push4f20;shift4c4;",
+        "states 1;accept 0;push 0a00;push 0b01;pop 0c00;pop 0d01;cost e 1 2 2;",
+        "states2;accept1;push0a00;push0b01;shift0c1;pop1a10;pop1b11;cost a212;"
+    };
+
     private long seed;
     private final Check check;
     private SyntaxRepair x;
@@ -94,6 +103,9 @@ public final class OracleTest {
 
     /** Most texts are right; some have a character changed, added or taken away. */
     private String grammar(int number) {
+        if (number % 5 == 4 && below(2) == 0) {
+            return DEEP[below(DEEP.length)];
+        }
         int states = 1 + below(number % 3 == 0 ? 6 : number % 3 == 1 ? 3 : 2);
         StringBuilder text = new StringBuilder(space() + "states" + space() + states + space() + ";");
         List<String> free = new ArrayList<>();
