@@ -960,14 +960,15 @@ public final class SyntaxRepair {
             newLeast = end ? 0 : FAR;
             newSecond = FAR;
             newWays = end ? 1 : 0;
-            int token = situation.tokens.kindAt(position);
-            for (int move = firstMove(); move < MOVES; move++) {
-                int target = targetOf(position, configuration, move);
+            for (int kind = 0; kind < KINDS; kind++) {
+                int target = reach.after(configuration, kind);
                 if (target >= 0) {
-                    int price = priceOf(move, token);
-                    offer(price + at(least, target), at(ways, target));
-                    offer(price + at(second, target), 0);
+                    offerConsumption(position, kind, target);
                 }
+            }
+            int token = situation.tokens.kindAt(position);
+            if (token >= 0) {
+                offer(situation.costs.of(DELETE, token), (position + 1) * CONFIGURATIONS + configuration);
             }
             int node = position * CONFIGURATIONS + configuration;
             boolean same = at(least, node) == newLeast
@@ -977,19 +978,34 @@ public final class SyntaxRepair {
             return !same;
         }
 
-        private void offer(int cost, int count) {
+        /** Offers the operations that consume a legal kind. */
+        private void offerConsumption(int position, int kind, int target) {
+            int token = situation.tokens.kindAt(position);
+            int nextLevel = (position + 1) * CONFIGURATIONS;
+            if (token == kind && lookAhead == WHOLE_SEQUENCE) {
+                offer(situation.costs.of(KEEP, kind), nextLevel + target);
+            } else if (token >= 0 && token != kind) {
+                offer(situation.costs.of(REPLACE, kind), nextLevel + target);
+            }
+            offer(situation.costs.of(INSERT, kind), position * CONFIGURATIONS + target);
+        }
+
+        /** Offers an operation that leads to a node. */
+        private void offer(int price, int node) {
+            int cost = price + at(least, node);
             if (cost >= FAR) {
                 return;
             }
             if (cost < newLeast) {
                 newSecond = newLeast;
                 newLeast = cost;
-                newWays = count;
+                newWays = at(ways, node);
             } else if (cost == newLeast) {
-                newWays = Math.min(newWays + count, MOST_WAYS);
-            } else if (cost < newSecond) {
-                newSecond = cost;
+                newWays = Math.min(newWays + at(ways, node), MOST_WAYS);
+            } else {
+                newSecond = Math.min(newSecond, cost);
             }
+            newSecond = Math.min(newSecond, price + at(second, node));
         }
 
         /** Local scripts have no KEEP. */

@@ -204,6 +204,15 @@ public final class PromiseTest {
         text("states 1;cost g111;", -24);
         text("states 1;cost 1111;", -24);
         text("states 1;costa111;", -19);
+        text("states 1;cost az111;", -24);
+        text("states 1;cost za111;", -24);
+        text("states 1;cost a`11;", -25);
+        text("states 1;cost a{11;", -25);
+        text("states 1;cost {111;", -24);
+        text("states 1;shift 0`0;", -26);
+        text("states 1;shift 0a/;", -27);
+        text("states 1;shift 0a:;", -27);
+        text("states 1;cost a9:9;", -26);
         text("states 1;cost a1a1;", -26);
     }
 
