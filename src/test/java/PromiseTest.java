@@ -786,6 +786,7 @@ public final class PromiseTest {
         SyntaxRepair x = Check.loaded(LONG_WAY);
         due("repairCost()", x.repairCost(), 51);
         due("repairCount()", x.repairCount(), 1);
+        due("secondCost()", x.secondCost(), 61);
         due("repairLength(0)", x.repairLength(0), 51);
         int inserted = 0;
         for (int i = 0; i < 51; i++) {
