@@ -334,6 +334,7 @@ public final class AutomatonBoundaryTest {
         StringBuilder text = new StringBuilder("states6;");
         SyntaxRepair x = new SyntaxRepair();
         for (int rules = 0; rules <= 17; rules++) {
+            x = new SyntaxRepair();
             due("loadGrammar() of " + rules + " rules", Check.load(x, text.toString()), rules + 1);
             due("ruleCount()", x.ruleCount(), rules);
             text.append("pop").append(rules / 6).append((char) ('a' + rules % 6)).append("50;");
@@ -373,8 +374,11 @@ public final class AutomatonBoundaryTest {
 
     // promises 19 and 20: "count: 0 to the number of tokens"
     private static void stateAndDepthRange() {
-        SyntaxRepair x = Check.loaded(STACK);
         for (int count = 0; count <= 12; count++) {
+            SyntaxRepair x = Check.loaded(STACK);
+            for (int i = 0; i < count; i++) {
+                x.appendToken(4);
+            }
             due("stateAfter(" + count + ")", x.stateAfter(count), 0);
             due("depthAfter(" + count + ")", x.depthAfter(count), 0);
             for (int out = count + 1; out <= 14; out++) {
@@ -385,7 +389,6 @@ public final class AutomatonBoundaryTest {
                 due("stateAfter(" + out + ") of " + count, x.stateAfter(out), -1);
                 due("depthAfter(" + out + ") of " + count, x.depthAfter(out), -1);
             }
-            x.appendToken(4);
         }
     }
 

@@ -583,6 +583,9 @@ public final class HistoryBoundaryTest {
         standing.rankThatIsNotThere(1);
         standing.rankThatIsNotThere(7);
         standing.nothingToRepair();
+        standing.refused("errorPosition()", x -> x.errorPosition(), -9);
+        standing.refused("repairOperation(0, 12)", x -> x.repairOperation(0, 12), -9);
+        standing.refused("repairKind(0, 12)", x -> x.repairKind(0, 12), -9);
         standing.refused("appendToken(0)", x -> x.appendToken(0), -3);
         standing.refused("insertToken(0, 0)", x -> x.insertToken(0, 0), -3);
         standing.refused("insertToken(12, 5)", x -> x.insertToken(12, 5), -3);
@@ -623,6 +626,12 @@ public final class HistoryBoundaryTest {
         standing.refused("stateAfter(3)", x -> x.stateAfter(3), -2);
         standing.refused("depthAfter(4)", x -> x.depthAfter(4), -2);
         standing.refused("loadGrammar()", x -> x.loadGrammar(), -45);
+        standing.refused("repairCost()", x -> x.repairCost(), -9);
+        standing.refused("secondCost()", x -> x.secondCost(), -9);
+        standing.refused("localCost(2)", x -> x.localCost(2), -9);
+        standing.refused("localOperation(2, 0)", x -> x.localOperation(2, 0), -9);
+        standing.refused("localKind(5, 0)", x -> x.localKind(5, 0), -9);
+        standing.refused("sweepCost(1)", x -> x.sweepCost(1), -9);
     }
 
     // ... with some edits undone, more than eight made, and without tokens

@@ -490,8 +490,8 @@ public final class TextBoundaryTest {
 
     // "and empties the buffer and the token sequence"
     private static void bufferAfterLoading() {
-        SyntaxRepair x = new SyntaxRepair();
         for (int count = 0; count <= 12; count++) {
+            SyntaxRepair x = new SyntaxRepair();
             for (int i = 0; i < count; i++) {
                 x.appendToken(i % 6);
             }
@@ -500,9 +500,7 @@ public final class TextBoundaryTest {
             due("tokenCount() after loadGrammar()", x.tokenCount(), 0);
             due("tokenAt(0) after loadGrammar()", x.tokenAt(0), -1);
             due("clearText() after loadGrammar()", x.clearText(), 0);
-            if (count == 6) {
-                x = new SyntaxRepair();
-            }
+            due("loadGrammar(), again", x.loadGrammar(), -10);
         }
     }
 
