@@ -20,6 +20,11 @@ public final class OracleTest {
         "states2;accept1;push0a00;push0b01;shift0c1;pop1a10;pop1b11;cost a212;"
     };
 
+    // Nothing is promised behind the 512th call; the last one is looked at too.
+    private static final int MOST_CALLS = 512;
+    // The most calls that a grammar and a filling take.
+    private static final int GRAMMAR = 153, FILLING = 8;
+
     private long seed;
     private final Check check;
     private SyntaxRepair x;
@@ -33,7 +38,7 @@ public final class OracleTest {
 
     public static void main(String[] args) {
         Check check = new Check("OracleTest");
-        int runs = args.length > 0 ? Integer.parseInt(args[0]) : 2000;
+        int runs = args.length > 0 ? Integer.parseInt(args[0]) : 800;
         for (int run = 1; run <= runs; run++) {
             new OracleTest(check).run(run);
         }
@@ -52,18 +57,19 @@ public final class OracleTest {
         told = new ArrayList<>();
         calls = 0;
         boolean ok = true;
-        // A grammar takes up to 152 calls more; nothing is promised behind the 512th.
-        while (ok && calls < 360) {
+        while (ok && calls < MOST_CALLS) {
             int what = below(40);
-            if (what == 0 || calls == 0 && number % 10 != 0) {
+            if ((what == 0 || calls == 0 && number % 10 != 0) && calls + GRAMMAR <= MOST_CALLS) {
                 ok = type(grammar(number)) && same("loadGrammar", 0, 0) && same("clearText", 0, 0);
-            } else if (what < 4) {
+            } else if (what < 4 && calls + FILLING <= MOST_CALLS) {
                 ok = fill();
             } else {
                 ok = same(CALLS[below(CALLS.length)], argument(), argument());
             }
         }
-        if (!ok) {
+        if (ok) {
+            check.due("calls of run " + number, calls, MOST_CALLS);
+        } else {
             System.out.println("run " + number + ": " + told);
         }
     }
