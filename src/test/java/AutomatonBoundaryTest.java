@@ -26,6 +26,8 @@ public final class AutomatonBoundaryTest {
         symbolZeroOrOne();
         finalConfigurations();
         oneRuleForStateAndKind();
+        ruleOfEachStateAndKind();
+        eachStackInEachState();
         acceptedSequences();
         newObject();
         stateCount();
@@ -234,6 +236,74 @@ public final class AutomatonBoundaryTest {
                 due("another kind: " + text, Check.load(new SyntaxRepair(), text.substring(0, offset)
                     + "b" + text.substring(offset + 1)), 3);
             }
+        }
+    }
+
+    // "Consuming a legal token applies the rule: the state becomes the target state, and the stack changes as the rule says."
+    private static void ruleOfEachStateAndKind() {
+        for (int pair = 0; pair < 36; pair++) {
+            int state = pair / 6;
+            int kind = pair % 6;
+            char letter = (char) ('a' + kind);
+            int other = (kind + 1) % 6;
+            char otherLetter = (char) ('a' + other);
+            for (int target = 0; target < 6; target++) {
+                String shift = "states 6;push 0" + otherLetter + state + "1;shift " + state + letter + target + ";";
+                ends("shift of " + pair, Check.loaded(shift, other, kind), target, 1);
+                for (int symbol = 0; symbol < 2; symbol++) {
+                    String below = "states 6;push 0" + otherLetter + state + symbol + ";";
+                    String rest = state + "" + letter + target;
+                    ends("pop of " + pair, Check.loaded(below + "pop " + rest + symbol + ";", other, kind), target, 0);
+                    due("pop of " + pair + ", another symbol", errorOf(below + "pop " + rest + (1 - symbol) + ";",
+                        other, kind), 1);
+                    for (int pushed = 0; pushed < 2; pushed++) {
+                        SyntaxRepair x = Check.loaded(below + "push " + rest + pushed + ";"
+                            + "pop " + target + (char) ('a' + (kind + 2) % 6) + "00;"
+                            + "pop " + target + (char) ('a' + (kind + 3) % 6) + "01;", other, kind);
+                        ends("push of " + pair, x, target, 2);
+                        due("push of " + pair + ": the pop of the symbol is legal, the other one is not",
+                            x.expectedKinds() & (1 << (kind + 2) % 6 | 1 << (kind + 3) % 6), 1 << (kind + 2 + pushed) % 6);
+                    }
+                }
+            }
+        }
+    }
+
+    /** Both of two tokens are legal, and lead to a state and a depth. */
+    private static void ends(String name, SyntaxRepair x, int state, int depth) {
+        due(name + ": stateAfter(2)", x.stateAfter(2), state);
+        due(name + ": depthAfter(2)", x.depthAfter(2), depth);
+    }
+
+    // "A configuration consists of a state and the contents of the stack.": all 90 of them
+    private static void eachStackInEachState() {
+        for (int configuration = 0; configuration < 90; configuration++) {
+            int state = configuration / 15;
+            // A number from 1 to 15 is a stack: behind its highest 1 its bits are the symbols, the top one last.
+            String stack = Integer.toBinaryString(configuration % 15 + 1).substring(1);
+            int depth = stack.length();
+            SyntaxRepair x = Check.loaded("states 6;accept " + state + ";push 0a00;push 0b01;"
+                + (state == 0 ? "" : "shift 0c" + state + ";") + "pop " + state + "d" + state + "0;pop " + state + "e" + state + "1;");
+            for (int i = 0; i < depth; i++) {
+                x.appendToken(stack.charAt(i) - '0');
+            }
+            if (state != 0) {
+                x.appendToken(2);
+            }
+            int count = x.tokenCount();
+            String name = "state " + state + " with " + stack;
+            due(name + ": stateAfter()", x.stateAfter(count), state);
+            due(name + ": depthAfter()", x.depthAfter(count), depth);
+            due(name + ": errorPosition()", x.errorPosition(), depth == 0 ? -9 : count);
+            int top = depth == 0 ? 0 : stack.charAt(depth - 1) == '0' ? 8 : 16;
+            due(name + ": expectedKinds()", x.expectedKinds(),
+                depth == 0 ? -2 : state != 0 ? top : depth < 3 ? 3 + top : top);
+            for (int left = depth - 1; left >= 0; left--) {
+                x.appendToken(stack.charAt(left) == '0' ? 3 : 4);
+                due(name + ": depthAfter() with " + left + " left", x.depthAfter(x.tokenCount()), left);
+                due(name + ": stateAfter() with " + left + " left", x.stateAfter(x.tokenCount()), state);
+            }
+            due(name + ": accepted when all is popped", x.errorPosition(), -9);
         }
     }
 
